@@ -11,11 +11,17 @@ final class Due {
     static final int NONE = BackBay.NONE;
 
     private int wrong = 0;
+    private String sentence = "";
+
+    /** What is due from now on is asked for by this sentence of the document. */
+    void of(String words) {
+        sentence = "\"" + words + "\": ";
+    }
 
     void due(String what, long got, long want) {
         if (got != want) {
             wrong++;
-            System.out.println(what + " answered " + got + ", due is " + want);
+            System.out.println(sentence + what + " answered " + got + ", due is " + want);
         }
     }
 
@@ -32,6 +38,11 @@ final class Due {
         if (wrong != 0) {
             System.exit(1);
         }
+    }
+
+    /** The first numbers on either side of those that are taken, and the farthest ones. */
+    static int[] outside(int least, int most) {
+        return new int[] {least - 1, most + 1, Integer.MIN_VALUE, Integer.MAX_VALUE};
     }
 
     /** Feeds the text, eight bytes at a time, and reads it. */

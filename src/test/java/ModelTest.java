@@ -77,7 +77,7 @@ public final class ModelTest {
         if (random.nextBoolean()) {
             call("bay", cells);
         } else {
-            cells = (int) bay.count(3);
+            cells = (int) model.count(3);
         }
         int row = random.nextInt(8);
         call("row", row, random.nextInt(3), cells);
@@ -109,8 +109,8 @@ public final class ModelTest {
 
     /** An argument that mostly fits. */
     private int tame(String call, int i) {
-        int cells = (int) bay.count(3);
-        int nodes = Math.max(1, (int) bay.count(2));
+        int cells = (int) model.count(3);
+        int nodes = Math.max(1, (int) model.count(2));
         switch (call + i) {
             case "row0": case "set0": case "copy0": case "copy2": case "drop0": case "start0":
                 return random.nextInt(8);
@@ -143,7 +143,7 @@ public final class ModelTest {
             case "gauge2":
                 return random.nextInt(19) - 9;
             case "out0":
-                return random.nextInt(Math.max(1, (int) bay.count(4)));
+                return random.nextInt(Math.max(1, (int) model.count(4)));
             case "wish0": case "slope0":
                 return random.nextInt(3);
             case "again0":
@@ -151,7 +151,7 @@ public final class ModelTest {
             case "again1":
                 return random.nextInt(7);
             case "lay0": case "apart0": case "apart1":
-                return random.nextInt(Math.max(1, (int) bay.count(6)));
+                return random.nextInt(Math.max(1, (int) model.count(6)));
             case "kind0": case "as0": case "ask0":
                 return random.nextInt(nodes);
             case "as1":
