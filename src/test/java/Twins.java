@@ -237,25 +237,25 @@ final class Twins {
         int before = x.status();
         t.due(told, call.on(x), answer);
         t.due("status behind " + told, x.status(), answer <= BackBay.NOT - 10 ? BackBay.NOT - 10 - answer : before);
-        List<List<Long>> alone = LEFT_ALONE.get(made.ordinal());
-        for (int i = 0; i < SIGHTS.size(); i++) {
-            BackBay y = made.make();
-            call.on(y);
-            t.holds("sight " + i + " is as without " + told, look(SIGHTS.get(i), y).equals(alone.get(i)));
-        }
+        dueAsLeftAlone(made, told, call);
     }
 
     /** For calls that only tell: they change not even status(). */
     void onlyTells(Made made, String what, Call call) {
+        String told = what + " (" + made + ")";
         BackBay x = made.make();
         int before = x.status();
         call.on(x);
-        t.due("status behind " + what, x.status(), before);
+        t.due("status behind " + told, x.status(), before);
+        dueAsLeftAlone(made, told, call);
+    }
+
+    private void dueAsLeftAlone(Made made, String told, Call call) {
+        List<List<Long>> alone = LEFT_ALONE.get(made.ordinal());
         for (int i = 0; i < SIGHTS.size(); i++) {
-            BackBay y = made.make();
-            call.on(y);
-            t.holds("sight " + i + " is as without " + what,
-                    look(SIGHTS.get(i), y).equals(LEFT_ALONE.get(made.ordinal()).get(i)));
+            BackBay x = made.make();
+            call.on(x);
+            t.holds("sight " + i + " is as without " + told, look(SIGHTS.get(i), x).equals(alone.get(i)));
         }
     }
 }
